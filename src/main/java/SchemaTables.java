@@ -615,7 +615,8 @@ public final class SchemaTables {
             if (first.kind == Schema.UNION || second.kind == Schema.UNION) {
                 return null;
             }
-            return first.kind != second.kind || haveDifferentNames(first, second) ? Schema.ofUnion(first, second) : null;
+            boolean canBeTold = first.kind != second.kind || haveDifferentNames(first, second);
+            return canBeTold ? Schema.ofUnion(first, second) : null;
         }
 
         private static boolean haveDifferentNames(Schema first, Schema second) {

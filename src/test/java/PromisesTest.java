@@ -634,11 +634,25 @@ public final class PromisesTest {
         x.give(6);
         due("another schema is staged", x.stage(3), NONE);
         due("the row stays", x.stage(2), 1);
+        x.give(7);
+        x.give(8);
+        due("no value, though it begins like one", x.stage(2), NONE);
+        x.register(0, 2);
+        due("load(0)", x.load(0), 2);
+        dueBytes(x, 2, 0, 83, 2, 2, 0, 2, 10, 12);
         x.drop();
         due("after drop another is taken", staged(x, 3, 6), 1);
         x.register(0, 3);
         x.load(0);
         due("after load another is taken", staged(x, 2, 6), 1);
+        x.drop();
+        x.make(ARRAY, 0, 2, 0);
+        due("no item where one is due", staged(x, 4, 2, 5), NONE);
+        due("it is there now", staged(x, 4, 6), 4);
+        x.register(2, 4);
+        due("load(2)", x.load(2), 1);
+        dueRecord(x, 2, 0, 4, 2, 5, 6);
+        staged(x, 2, 6);
         x.give(6);
         goDown(x);
         due("while down", x.stage(2), DOWN);
@@ -996,6 +1010,8 @@ public final class PromisesTest {
         due("200 bytes", x.compact(0), 1);
         dueBytes(x, 0, 0, 1, 0, 10, 7, 0, 0, 0);
         dueBytes(x, 10, 0, 83, 4, 10, 0, 200);
+        int longs = 18 * (254 + 8 * 255 + 1);
+        dueBytes(x, 10, 204, 0, (83 + 4 + 10 + 200 + 8 * 4 + 2 * 2 + longs) % 251, 0, 0);
         x = longs();
         stageLongs(x, 100);
         x.load(0);
@@ -1122,6 +1138,16 @@ public final class PromisesTest {
         due("a LONG is no INT", x.read(0, 1, 2), FAULT);
         due("even if it is small", x.read(0, 2, 2), FAULT);
         dueNumbers(x);
+        long[] numbers = {63, 64, -64, -65, 127, 128, 8191, 8192, 1L << 34, -1L << 62, BIG};
+        for (int i = 0; i < numbers.length; i++) {
+            x = plain();
+            x.register(0, 3);
+            staged(x, 3, numbers[i]);
+            staged(x, 3, -numbers[i]);
+            x.load(0);
+            dueRecord(x, 0, 0, 3, numbers[i]);
+            dueRecord(x, 0, 1, 3, -numbers[i]);
+        }
         x = plain();
         x.register(0, 0);
         x.register(1, 1);
