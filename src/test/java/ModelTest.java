@@ -4,8 +4,10 @@ import java.util.Random;
 
 /** Runs of calls drawn from fixed seeds: the program and the model must answer the same. */
 public final class ModelTest {
-    private static final int RUNS = 3000;
+    private static final int RUNS = 20000;
     private static final int CALLS = 512;
+    /** More calls than one record's numbers and its stage, or one read with a look at its numbers, are. */
+    private static final int MOST_AT_ONCE = 60;
     private static final Check CHECK = new Check();
     private static final int[] ANSWERS = new int[5 * 5];
 
@@ -16,12 +18,16 @@ public final class ModelTest {
     private final int strangeness;
     private final int unrest;
     private final int largeness;
+    /** How many calls the object may be used for, and how many of them are for the looks at the end. */
+    private int left = CALLS;
+    private final int lastLooks;
 
     private ModelTest(long seed) {
         random = new Random(seed);
         strangeness = random.nextInt(20) + 4;
         unrest = random.nextInt(3);
         largeness = random.nextInt(4);
+        lastLooks = MOST_AT_ONCE + random.nextInt(3) * 60;
     }
 
     public static void main(String[] args) {
@@ -68,19 +74,22 @@ public final class ModelTest {
     private void run() {
         if (chance(8)) {
             makeLargeReader();
+        } else if (chance(8)) {
+            fillTheDisk();
         }
-        int opening = 20 + random.nextInt(30);
-        for (int i = 0; i < CALLS; i++) {
+        int opening = 5 + random.nextInt(20);
+        for (int i = 0; left > lastLooks; i++) {
             if (i < opening || chance(20)) {
                 makeSomething();
             } else {
                 doSomething();
             }
-            if (i % 32 == 31) {
-                compareState();
-            }
         }
-        compareDisk();
+        switch (random.nextInt(3)) {
+            case 0 -> compareState();
+            case 1 -> compareSchemas();
+            default -> compareDisk();
+        }
     }
 
     private void makeSomething() {
@@ -120,6 +129,26 @@ public final class ModelTest {
         }
         due("stage(" + writer + ")", x.stage(writer), model.stage(writer));
         due("load(0)", x.load(0), model.load(0));
+    }
+
+    /** Long files, and few of them, so that free blocks become rare. */
+    private void fillTheDisk() {
+        make(3, 0, 0, 0);
+        int longs = make(5, 0, 0, 0);
+        for (int subject = 0; subject < 2; subject++) {
+            due("register(" + subject + ", " + longs + ")", x.register(subject, longs), model.register(subject, longs));
+        }
+        for (int file = 0; file < 8; file++) {
+            int records = file < 2 ? 3 : 4;
+            for (int i = 0; i < records; i++) {
+                for (long n : new long[] {3, random.nextLong(), random.nextLong(), random.nextLong()}) {
+                    due("give(" + n + ")", x.give(n), model.give(n));
+                }
+                due("stage(" + longs + ")", x.stage(longs), model.stage(longs));
+            }
+            int subject = file < 2 ? 0 : 1;
+            due("load(" + subject + ")", x.load(subject), model.load(subject));
+        }
     }
 
     private int make(int kind, int name, int a, int b) {
@@ -168,7 +197,7 @@ public final class ModelTest {
             schema = model.registered.get(random.nextInt(model.registered.size())).schema();
         }
         int times = 1 + random.nextInt(6);
-        for (int i = 0; i < times; i++) {
+        for (int i = 0; i < times && left > lastLooks; i++) {
             List<Long> numbers = new ArrayList<>();
             if (schema >= 0 && schema < model.defs.size()) {
                 draw(schema, numbers);
@@ -182,7 +211,7 @@ public final class ModelTest {
             if (chance(strangeness)) {
                 numbers.add(random.nextInt(numbers.size() + 1), number());
             }
-            for (long n : numbers) {
+            for (long n : numbers.subList(0, Math.min(26, numbers.size()))) {
                 due("give(" + n + ")", x.give(n), model.give(n));
             }
             long due = model.stage(schema);
@@ -259,7 +288,9 @@ public final class ModelTest {
         long due = model.read(subject, k, schema);
         count(4, due);
         due("read(" + subject + ", " + k + ", " + schema + ")", x.read(subject, k, schema), due);
-        compareNumbers();
+        for (int i = 0; i <= due; i++) {
+            due("number(" + i + ")", x.number(i), model.number(i));
+        }
     }
 
     private void look() {
@@ -287,35 +318,29 @@ public final class ModelTest {
         }
     }
 
-    private void compareNumbers() {
-        for (int i = 0; i <= 41; i++) {
-            due("number(" + i + ")", x.number(i), model.number(i));
-        }
-    }
-
     private void compareState() {
-        for (int subject = -1; subject <= 3; subject++) {
+        for (int subject = 0; subject < 3; subject++) {
             due("versions(" + subject + ")", x.versions(subject), model.versions(subject));
             due("records(" + subject + ")", x.records(subject), model.records(subject));
             due("files(" + subject + ")", x.files(subject), model.files(subject));
-            for (int v = -1; v <= 10; v++) {
-                due("version(" + subject + ", " + v + ")", x.version(subject, v), model.version(subject, v));
-            }
         }
         due("writes()", x.writes(), model.writes());
-        compareNumbers();
-        for (int r = 0; r < model.defs.size(); r++) {
-            for (int w = 0; w < model.defs.size(); w++) {
-                due("canRead(" + r + ", " + w + ")", x.canRead(r, w) ? 1 : 0, model.canRead(r, w) ? 1 : 0);
-            }
+        for (int i = 0; left > 0; i++) {
+            due("octet(" + i / 32 + ", " + i % 32 + ")", x.octet(i / 32, i % 32), model.octet(i / 32, i % 32));
+        }
+    }
+
+    private void compareSchemas() {
+        while (left > 0) {
+            int r = random.nextInt(Math.max(1, model.defs.size()));
+            int w = random.nextInt(Math.max(1, model.defs.size()));
+            due("canRead(" + r + ", " + w + ")", x.canRead(r, w) ? 1 : 0, model.canRead(r, w) ? 1 : 0);
         }
     }
 
     private void compareDisk() {
-        for (int block = 0; block < 40; block++) {
-            for (int k = 0; k < 32; k++) {
-                due("octet(" + block + ", " + k + ")", x.octet(block, k), model.octet(block, k));
-            }
+        for (int i = random.nextInt(30 * 32); left > 0; i++) {
+            due("octet(" + i / 32 + ", " + i % 32 + ")", x.octet(i / 32, i % 32), model.octet(i / 32, i % 32));
         }
     }
 
@@ -323,7 +348,9 @@ public final class ModelTest {
         ANSWERS[call * 5 - (int) Math.min(0, answer)]++;
     }
 
-    private static void due(String call, long got, long want) {
+    /** For one call each, so that an object is used for 512 calls. */
+    private void due(String call, long got, long want) {
+        left--;
         CHECK.due(call, got, want);
     }
 }

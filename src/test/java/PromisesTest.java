@@ -1,21 +1,5 @@
 /** For each promise of the document: ordinary calls, the edges that it names, and wrong calls. */
-public final class PromisesTest {
-    private static final int NONE = SchemaTables.NONE;
-    private static final int FAULT = SchemaTables.FAULT;
-    private static final int FULL = SchemaTables.FULL;
-    private static final int DOWN = SchemaTables.DOWN;
-
-    private static final int NULL = 0;
-    private static final int BOOLEAN = 1;
-    private static final int INT = 2;
-    private static final int LONG = 3;
-    private static final int ENUM = 4;
-    private static final int ARRAY = 5;
-    private static final int UNION = 6;
-    private static final int RECORD = 7;
-
-    private static final Check CHECK = new Check();
-
+public final class PromisesTest extends Cases {
     public static void main(String[] args) {
         newObject();
         fieldCountsAndRefuses();
@@ -63,67 +47,6 @@ public final class PromisesTest {
         CHECK.end();
     }
 
-    private static void begin(String name) {
-        CHECK.begin(name);
-    }
-
-    private static void due(String call, long got, long want) {
-        CHECK.due(call, got, want);
-    }
-
-    private static void due(String call, boolean got, boolean want) {
-        CHECK.due(call, got, want);
-    }
-
-    /** An object with the four plain schemas: 0 NULL, 1 BOOLEAN, 2 INT, 3 LONG. */
-    private static SchemaTables plain() {
-        SchemaTables x = new SchemaTables();
-        for (int kind = NULL; kind <= LONG; kind++) {
-            x.make(kind, 0, 0, 0);
-        }
-        return x;
-    }
-
-    private static SchemaTables giveAll(SchemaTables x, long... numbers) {
-        for (long n : numbers) {
-            x.give(n);
-        }
-        return x;
-    }
-
-    private static int staged(SchemaTables x, int schema, long... numbers) {
-        return giveAll(x, numbers).stage(schema);
-    }
-
-    private static int loaded(SchemaTables x, int subject, int schema, long... numbers) {
-        staged(x, schema, numbers);
-        return x.load(subject);
-    }
-
-    /** Stops the machine by a registration under a subject that has none yet. */
-    private static void goDown(SchemaTables x) {
-        x.limit(0);
-        int unused = 0;
-        while (unused < 2 && x.versions(unused) > 0) {
-            unused++;
-        }
-        due("a machine that goes down", x.register(unused, 0), DOWN);
-    }
-
-    private static void dueBytes(SchemaTables x, int block, int from, int... octets) {
-        for (int i = 0; i < octets.length; i++) {
-            int k = from + i;
-            due("octet(" + (block + k / 32) + ", " + k % 32 + ")", x.octet(block + k / 32, k % 32), octets[i]);
-        }
-    }
-
-    private static void dueNumbers(SchemaTables x, long... numbers) {
-        for (int i = 0; i < numbers.length; i++) {
-            due("number(" + i + ")", x.number(i), numbers[i]);
-        }
-        due("number(" + numbers.length + ")", x.number(numbers.length), 0);
-    }
-
     private static void newObject() {
         begin("promise 1, a new object");
         SchemaTables x = new SchemaTables();
@@ -139,10 +62,8 @@ public final class PromisesTest {
         due("number(0)", x.number(0), 0);
         due("writes()", x.writes(), 0);
         due("restart()", x.restart(), false);
-        for (int block = 0; block < 40; block++) {
-            for (int k = 0; k < 32; k++) {
-                due("octet", x.octet(block, k), 0);
-            }
+        for (int block = 0; block < 40; block += 13) {
+            dueBlock(x, block);
         }
         due("give(0)", x.give(0), 1);
         due("make", x.make(INT, 0, 0, 0), 0);
@@ -700,16 +621,6 @@ public final class PromisesTest {
         due("the row stays", x.give(0), 24);
     }
 
-    private static final long BIG = Long.MAX_VALUE;
-
-    /** The plain schemas, and 4: ARRAY of LONG, which subject 0 has. */
-    private static SchemaTables longs() {
-        SchemaTables x = plain();
-        x.make(ARRAY, 0, 3, 0);
-        x.register(0, 4);
-        return x;
-    }
-
     private static void stage128(SchemaTables x) {
         for (int i = 0; i < 4; i++) {
             due("32 bytes", staged(x, 4, 3, BIG, BIG, BIG), 32);
@@ -907,11 +818,6 @@ public final class PromisesTest {
         for (int i = 0; i < count; i++) {
             due("five bytes", staged(x, 2, Integer.MAX_VALUE - i), 5);
         }
-    }
-
-    private static void dueRecord(SchemaTables x, int subject, int k, int schema, long... numbers) {
-        due("read(" + subject + ", " + k + ", " + schema + ")", x.read(subject, k, schema), numbers.length);
-        dueNumbers(x, numbers);
     }
 
     private static void compact() {
