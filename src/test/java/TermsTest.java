@@ -26,6 +26,7 @@ public final class TermsTest extends Cases {
         valuesOfArrays();
         valuesOfUnions();
         valuesOfRecords();
+        wrongPartsAreNotMadeGood();
         defaultsOfPlainKinds();
         defaultsOfEnums();
         defaultsOfNullAndArray();
@@ -367,6 +368,35 @@ public final class TermsTest extends Cases {
         x.make(RECORD, 0, 0, 0);
         due("no fields", x.stage(5), 0);
         due("no fields, but a number", staged(x, 5, 0), NONE);
+    }
+
+    private static void wrongPartsAreNotMadeGood() {
+        begin("A VALUE: a row with a wrong part is none, though its other parts could be found in it");
+        dueWrongPart(new int[] {BOOLEAN, 0, 0, 0}, 7);
+        dueWrongPart(new int[] {INT, 0, 0, 0}, WRAPS);
+        dueWrongPart(new int[] {ENUM, 0, 1, NONE}, 7);
+        dueWrongPart(new int[] {ARRAY, 0, NULL, 0}, 4);
+        dueWrongPart(new int[] {UNION, 0, NULL, BOOLEAN}, 5);
+    }
+
+    /** Of RECORD { RECORD { the schema, INT, INT or NULL }, LONG } the wrong number alone could be the LONG. */
+    private static void dueWrongPart(int[] makes, long wrong) {
+        SchemaTables x = plain();
+        int first = makeAll(x, makes);
+        int union = x.make(UNION, 0, INT, NULL);
+        x.field(0, first, false, 0);
+        x.field(1, INT, false, 0);
+        x.field(2, union, false, 0);
+        int inner = x.make(RECORD, 0, 0, 0);
+        x.field(0, inner, false, 0);
+        x.field(1, LONG, false, 0);
+        int outer = x.make(RECORD, 1, 0, 0);
+        due("an empty row", x.stage(inner), NONE);
+        due("an empty row", x.stage(outer), NONE);
+        due("the wrong number alone", staged(x, outer, wrong), NONE);
+        due("and others", staged(x, outer, 0, 0, 0, 0), NONE);
+        x.drop();
+        due("a value", staged(x, outer, 0, 0, 0, 0, wrong) > 0, true);
     }
 
     private static void dueDefault(int[] makes, long value, boolean fits) {
