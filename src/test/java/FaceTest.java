@@ -118,21 +118,43 @@ public final class FaceTest {
             due("no " + word, !Pattern.compile(word).matcher(code).find());
         }
         due("characters 0 to 127 alone", text.chars().allMatch(c -> c < 128));
-        dueShortMethods(code);
+        dueShortMethods(code.split("\n"));
+        dueFewMakers(code.split("\n"));
     }
 
     /** A method of a class inside begins with eight blanks, one of the outer class with four. */
-    private static void dueShortMethods(String code) {
-        String[] lines = code.split("\n");
+    private static boolean isHead(String line) {
+        int blanks = line.replaceAll("\\S.*", "").length();
+        return line.endsWith(") {") && (blanks == 4 || blanks == 8)
+            && line.matches("\\s*(public|private|static|int|long|boolean|void|[A-Z]\\w*)\\b.*");
+    }
+
+    private static void dueShortMethods(String[] lines) {
         for (int i = 0; i < lines.length; i++) {
             String blanks = lines[i].replaceAll("\\S.*", "");
-            boolean isHead = lines[i].endsWith(") {") && (blanks.length() == 4 || blanks.length() == 8)
-                && lines[i].matches("\\s*(public|private|static|int|long|boolean|void|[A-Z]\\w*)\\b.*");
             int end = i;
-            while (isHead && !lines[end].equals(blanks + "}")) {
+            while (isHead(lines[i]) && !lines[end].equals(blanks + "}")) {
                 end++;
             }
             due("at most sixty lines: " + lines[i].strip(), end - i <= 60);
         }
+    }
+
+    /** Only a new object, field and make may make objects: all calls of a run have one room in common. */
+    private static void dueFewMakers(String[] lines) {
+        Set<String> makers = Set.of("ofPlain", "ofEnum", "ofArray", "ofUnion", "ofRecord", "addField", "buildRecord");
+        String method = "";
+        int found = 0;
+        for (String line : lines) {
+            if (isHead(line)) {
+                method = line.replaceAll("\\(.*", "").replaceAll(".*\\W", "");
+            }
+            if (line.matches(".*\\bnew\\b.*|.*\\.clone\\(.*")) {
+                found++;
+                boolean isConstructor = Character.isUpperCase(method.charAt(0));
+                due(method + " makes no objects", isConstructor || makers.contains(method));
+            }
+        }
+        due("makers of objects were found", found > makers.size());
     }
 }
